@@ -1,101 +1,6 @@
 /** Tests of each promise: ordinary calls, the edges that the document names, and wrong arguments. */
-public final class PromiseTests {
-    private static final int A = ModuleLoft.ABSTRACT;
-    private static final int PLAIN = ModuleLoft.PLAIN;
-    private static final int TYPE = 0, VALUE = 1, PART = 2;
-
-    private static final Class<?> IOOBE = IndexOutOfBoundsException.class;
-    private static final Class<?> IAE = IllegalArgumentException.class;
-    private static final Class<?> ISE = IllegalStateException.class;
-
-    private interface Call {
-        void run();
-    }
-
-    private static int wrong = 0;
-    private static int checks = 0;
-    private static String promise = "";
-
-    private static void due(long want, long got) {
-        checks++;
-        if (want != got) {
-            wrong++;
-            System.out.println(promise + ", " + line() + ": answered " + got + ", due is " + want);
-        }
-    }
-
-    private static void due(boolean want, boolean got) {
-        due(want ? 1 : 0, got ? 1 : 0);
-    }
-
-    private static void dueThrow(Class<?> want, Call call) {
-        checks++;
-        Class<?> got = null;
-        try {
-            call.run();
-        } catch (RuntimeException e) {
-            got = e.getClass();
-        }
-        if (want != got) {
-            wrong++;
-            System.out.println(promise + ", " + line() + ": threw " + got + ", due is " + want);
-        }
-    }
-
-    private static String line() {
-        for (StackTraceElement frame : new Throwable().getStackTrace()) {
-            if (frame.getMethodName().startsWith("promise")) {
-                return "line " + frame.getLineNumber();
-            }
-        }
-        return "line unknown";
-    }
-
-    // ---- ready-made states
-
-    /** Adds new types until there are so many. */
-    private static void fillTypes(ModuleLoft x, int until) {
-        int last = x.addType(9, -1);
-        while (last < until - 1) {
-            last = x.addType(9, -1);
-        }
-    }
-
-    private static void fillStructures(ModuleLoft x, int until) {
-        int last = x.structure();
-        while (last < until - 1) {
-            last = x.structure();
-        }
-    }
-
-    private static void fillSignatures(ModuleLoft x, int until) {
-        int last = x.signature();
-        while (last < until - 1) {
-            last = x.signature();
-        }
-    }
-
-    /** Structure 0: TYPE 0 is type 2, VALUE 0 of it is 5. Signature 0: TYPE 0 is abstract, VALUE 0 is of it. */
-    private static ModuleLoft counter() {
-        ModuleLoft x = new ModuleLoft();
-        x.addType(0, -1);
-        x.addValue(0, 2, 5);
-        x.structure();
-        x.specType(0, A);
-        x.specValue(0, -1, PLAIN);
-        x.signature();
-        return x;
-    }
-
-    /** There are so many types: the last one is there, and the next is not. */
-    private static void dueTypes(int count, ModuleLoft x) {
-        due(-1, Math.min(x.type(count - 1, 1), -1));
-        dueThrow(IOOBE, () -> x.type(count, 0));
-    }
-
-    // ---- the promises
-
-    private static void promise1() {
+public final class PromiseTests extends Checks {
+    static void promise1() {
         ModuleLoft x = new ModuleLoft();
         due(0, x.type(0, 0));
         due(0, x.type(1, 0));
@@ -120,7 +25,7 @@ public final class PromiseTests {
         due(-100, ModuleLoft.PLAIN);
     }
 
-    private static void promise2() {
+    static void promise2() {
         ModuleLoft x = new ModuleLoft();
         due(2, x.arrow(0, 1));
         due(3, x.arrow(1, 0));
@@ -144,7 +49,7 @@ public final class PromiseTests {
         dueTypes(200, x);
     }
 
-    private static void promise3() {
+    static void promise3() {
         ModuleLoft x = new ModuleLoft();
         x.addType(0, -1);
         x.arrow(2, 1);
@@ -161,7 +66,7 @@ public final class PromiseTests {
         dueThrow(IOOBE, () -> x.type(4, 3));
     }
 
-    private static void promise4() {
+    static void promise4() {
         ModuleLoft x = new ModuleLoft();
         due(0, x.addType(0, 0));
         due(2, x.addType(9, -1));
@@ -185,7 +90,7 @@ public final class PromiseTests {
         due(2, x.items(1));
     }
 
-    private static void promise5() {
+    static void promise5() {
         ModuleLoft x = new ModuleLoft();
         due(false, x.addValue(0, 0, 10000));
         due(false, x.addValue(9, 1, -10000));
@@ -208,7 +113,7 @@ public final class PromiseTests {
         due(2, x.item(0, VALUE, 5, 0));
     }
 
-    private static void promise6() {
+    static void promise6() {
         ModuleLoft x = new ModuleLoft();
         dueThrow(IOOBE, () -> x.addPart(0, 0));
         x.structure();
@@ -229,7 +134,7 @@ public final class PromiseTests {
         due(1, x.item(1, TYPE, 0, 1));
     }
 
-    private static void promise7() {
+    static void promise7() {
         ModuleLoft x = new ModuleLoft();
         dueThrow(IOOBE, () -> x.open(0));
         x.structure();
@@ -258,7 +163,7 @@ public final class PromiseTests {
         due(3, x.items(1));
     }
 
-    private static void promise8() {
+    static void promise8() {
         ModuleLoft x = new ModuleLoft();
         x.addValue(1, 0, 2);
         due(0, x.structure());
@@ -274,7 +179,7 @@ public final class PromiseTests {
     }
 
     /** A draft has room for all names of all kinds. */
-    private static void promise8Wide() {
+    static void promise8Wide() {
         ModuleLoft x = new ModuleLoft();
         x.structure();
         for (int name = 0; name < 10; name++) {
@@ -297,7 +202,7 @@ public final class PromiseTests {
         }
     }
 
-    private static void promise9() {
+    static void promise9() {
         ModuleLoft x = new ModuleLoft();
         x.structure();
         x.addType(2, 1);
@@ -324,7 +229,7 @@ public final class PromiseTests {
         dueThrow(IAE, () -> x.item(1, 0, 2, -1));
     }
 
-    private static void promise10() {
+    static void promise10() {
         ModuleLoft x = counter();
         due(2, x.items(0));
         dueThrow(IOOBE, () -> x.items(1));
@@ -334,7 +239,7 @@ public final class PromiseTests {
         due(1, x.items(1));
     }
 
-    private static void promise11() {
+    static void promise11() {
         ModuleLoft x = new ModuleLoft();
         due(1, x.specType(0, A));
         due(2, x.specType(1, -1));
@@ -377,7 +282,7 @@ public final class PromiseTests {
     }
 
     /** Specs of parts count as often as they stand: 60 are possible, 61 are not. */
-    private static void promise11Limit() {
+    static void promise11Limit() {
         ModuleLoft x = wideSignatures();
         due(29, x.specs(1));
         due(1, x.specs(2));
@@ -413,7 +318,7 @@ public final class PromiseTests {
         dueThrow(ISE, () -> x.specPart(9, 0));
     }
 
-    private static void promise12() {
+    static void promise12() {
         ModuleLoft x = new ModuleLoft();
         x.specType(4, A);
         due(2, x.specValue(0, -5, PLAIN));
@@ -436,7 +341,7 @@ public final class PromiseTests {
         due(2, x.arrow(0, 1));
     }
 
-    private static void promise13() {
+    static void promise13() {
         ModuleLoft x = counter();
         due(1, x.specPart(0, 0));
         due(2, x.specPart(9, 0));
@@ -452,7 +357,7 @@ public final class PromiseTests {
         due(50, x.match(0, 1));
     }
 
-    private static void promise14() {
+    static void promise14() {
         ModuleLoft x = counter();
         dueThrow(IOOBE, () -> x.include(1));
         dueThrow(IOOBE, () -> x.include(-1));
@@ -480,7 +385,7 @@ public final class PromiseTests {
     }
 
     /** What is included counts with the specs of its parts. */
-    private static void promise14Limit() {
+    static void promise14Limit() {
         ModuleLoft x = wideSignatures();
         x.specPart(0, 1);
         x.specPart(1, 1);
@@ -496,7 +401,7 @@ public final class PromiseTests {
         due(2, x.specs(5));
     }
 
-    private static void promise15() {
+    static void promise15() {
         ModuleLoft x = new ModuleLoft();
         x.specType(0, A);
         due(0, x.signature());
@@ -510,7 +415,7 @@ public final class PromiseTests {
         due(2, x.specType(1, -1));
     }
 
-    private static void promise16() {
+    static void promise16() {
         ModuleLoft x = new ModuleLoft();
         x.addType(0, -1);
         x.arrow(2, 2);
@@ -551,7 +456,7 @@ public final class PromiseTests {
     }
 
     /** A type taken out leaves room, in the specs that hold the signature as well. */
-    private static void promise16Room() {
+    static void promise16Room() {
         ModuleLoft x = wideSignatures();
         due(3, x.with(1, 9, 0, true));
         due(28, x.specs(3));
@@ -565,7 +470,7 @@ public final class PromiseTests {
         dueThrow(ISE, () -> x.specType(1, A));
     }
 
-    private static void promise17() {
+    static void promise17() {
         ModuleLoft x = counter();
         due(2, x.specs(0));
         dueThrow(IOOBE, () -> x.specs(1));
@@ -575,7 +480,7 @@ public final class PromiseTests {
         due(1, x.specs(1));
     }
 
-    private static void promise18() {
+    static void promise18() {
         ModuleLoft x = counter();
         due(0, x.match(0, 0));
         x.specType(7, A);
@@ -601,7 +506,7 @@ public final class PromiseTests {
         return x.match(0, x.signature());
     }
 
-    private static void promise18Parts() {
+    static void promise18Parts() {
         ModuleLoft x = counter();
         x.addPart(6, 0);
         x.addType(0, 1);
@@ -627,7 +532,7 @@ public final class PromiseTests {
     }
 
     /** A value told as an arrow has the ARROW of the two, and a told type may be an ARROW. */
-    private static void promise18Arrows() {
+    static void promise18Arrows() {
         ModuleLoft x = new ModuleLoft();
         x.addType(0, -1);
         x.addType(1, x.arrow(2, 0));
@@ -673,7 +578,7 @@ public final class PromiseTests {
         return x;
     }
 
-    private static void promise18Deep() {
+    static void promise18Deep() {
         ModuleLoft x = deep(20);
         due(0, x.match(19, 19));
         due(60, x.match(19, 18));
@@ -685,7 +590,7 @@ public final class PromiseTests {
         due(20, x.structure());
     }
 
-    private static void promise19Deep() {
+    static void promise19Deep() {
         ModuleLoft x = deep(15);
         due(29, x.seal(14, 14));
         due(28, x.item(29, PART, 0, 0));
@@ -698,7 +603,7 @@ public final class PromiseTests {
         due(29, z.seal(13, 13));
     }
 
-    private static void promise19() {
+    static void promise19() {
         ModuleLoft x = counter();
         due(1, x.seal(0, 0));
         due(3, x.item(1, TYPE, 0, 0));
@@ -723,7 +628,7 @@ public final class PromiseTests {
     }
 
     /** Items come in the order of the specs; parts of parts first, types as the specs are come to. */
-    private static void promise19Order() {
+    static void promise19Order() {
         ModuleLoft x = counter();
         x.addPart(1, 0);
         x.addType(5, 2);
@@ -767,7 +672,7 @@ public final class PromiseTests {
     }
 
     /** What finds no room makes nothing, not even a part or some of the types. */
-    private static void promise19Room() {
+    static void promise19Room() {
         ModuleLoft x = counter();
         x.addPart(0, 0);
         x.addType(0, 2);
@@ -800,7 +705,7 @@ public final class PromiseTests {
     }
 
     /** An ARROW that is there already needs no room; one that is not does. */
-    private static void promise19ArrowRoom() {
+    static void promise19ArrowRoom() {
         ModuleLoft x = new ModuleLoft();
         x.addType(0, -1);
         x.addValue(0, x.arrow(2, 2), 0);
@@ -818,7 +723,7 @@ public final class PromiseTests {
         dueTypes(199, x);
     }
 
-    private static void promise20() {
+    static void promise20() {
         ModuleLoft x = new ModuleLoft();
         x.addType(0, -1);
         x.addValue(0, x.arrow(2, 0), 8);
@@ -856,7 +761,7 @@ public final class PromiseTests {
         dueThrow(IOOBE, () -> x.view(0, -1));
     }
 
-    private static void promise21() {
+    static void promise21() {
         ModuleLoft x = counter();
         x.specType(0, 0);
         x.specValue(0, 0, PLAIN);
@@ -886,7 +791,7 @@ public final class PromiseTests {
     }
 
     /** An ARROW that nobody has made is like itself; one that is told by its number is the ARROW of the two. */
-    private static void promise21Arrows() {
+    static void promise21Arrows() {
         ModuleLoft x = new ModuleLoft();
         x.specType(0, A);
         x.specValue(0, -1, 1);
@@ -919,7 +824,7 @@ public final class PromiseTests {
     }
 
     /** Nothing is made by it, so it goes when there is no room for more. */
-    private static void promise21Room() {
+    static void promise21Room() {
         ModuleLoft x = counter();
         x.specPart(0, 0);
         x.specType(1, A);
@@ -942,7 +847,7 @@ public final class PromiseTests {
         dueThrow(ISE, () -> x.arrow(0, 0));
     }
 
-    private static void promise22() {
+    static void promise22() {
         ModuleLoft x = counter();
         x.specType(0, A);
         x.specValue(0, -1, PLAIN);
@@ -975,7 +880,7 @@ public final class PromiseTests {
     }
 
     /** It goes by what is written, not by what is meant. */
-    private static void promise22Written() {
+    static void promise22Written() {
         ModuleLoft x = new ModuleLoft();
         int arrow = x.arrow(0, 1);
         x.specType(0, 0);
@@ -1009,7 +914,7 @@ public final class PromiseTests {
         due(false, x.alike(6, 8));
     }
 
-    private static void promise23() {
+    static void promise23() {
         ModuleLoft x = counter();
         due(1, x.bodyType(0, -1));
         due(2, x.bodyType(9, 0));
@@ -1023,7 +928,7 @@ public final class PromiseTests {
         due(4, x.bodyType(2, 0));
     }
 
-    private static void promise24() {
+    static void promise24() {
         ModuleLoft x = counter();
         x.bodyType(3, -1);
         due(2, x.bodyValue(0, -4, PLAIN, -1, 10000));
@@ -1045,7 +950,7 @@ public final class PromiseTests {
         due(4, x.bodyValue(1, 2, 2, -1, 0));
     }
 
-    private static void promise25() {
+    static void promise25() {
         ModuleLoft x = counter();
         dueThrow(IOOBE, () -> x.functor(1, -1, true));
         dueThrow(IOOBE, () -> x.functor(-1, -1, true));
@@ -1071,7 +976,7 @@ public final class PromiseTests {
         due(2, x.bodyType(1, -1));
     }
 
-    private static void promise26() {
+    static void promise26() {
         ModuleLoft x = counter();
         x.bodyType(0, 0);
         x.bodyType(1, -1);
@@ -1109,7 +1014,7 @@ public final class PromiseTests {
         dueTypes(8, x);
     }
 
-    private static void promise26Pure() {
+    static void promise26Pure() {
         ModuleLoft x = counter();
         x.bodyType(0, -1);
         x.functor(0, -1, false);
@@ -1129,7 +1034,7 @@ public final class PromiseTests {
     }
 
     /** The result is the sealed one; what does not go makes nothing. */
-    private static void promise26Result() {
+    static void promise26Result() {
         ModuleLoft x = counter();
         x.bodyType(0, 0);
         x.bodyValue(0, -1, PLAIN, 0, 1);
@@ -1153,7 +1058,7 @@ public final class PromiseTests {
         due(29, x.structure());
     }
 
-    private static void promise26Room() {
+    static void promise26Room() {
         ModuleLoft x = counter();
         x.bodyType(0, -1);
         x.bodyValue(0, -1, 0, -1, 1);
@@ -1170,7 +1075,7 @@ public final class PromiseTests {
         due(2, x.structure());
     }
 
-    private static void promise27() {
+    static void promise27() {
         ModuleLoft x = counter();
         dueThrow(IOOBE, () -> x.pack(1, 0));
         dueThrow(IOOBE, () -> x.pack(-1, 0));
@@ -1187,7 +1092,7 @@ public final class PromiseTests {
         due(2, x.structure());
     }
 
-    private static void promise28() {
+    static void promise28() {
         ModuleLoft x = counter();
         due(0, x.pack(0, 0));
         due(1, x.unpack(0));
@@ -1209,7 +1114,7 @@ public final class PromiseTests {
         dueTypes(5, x);
     }
 
-    private static void promise29() {
+    static void promise29() {
         ModuleLoft x = counter();
         dueThrow(IOOBE, () -> x.unit(1, 0, false));
         dueThrow(IOOBE, () -> x.unit(-1, 0, false));
@@ -1228,7 +1133,7 @@ public final class PromiseTests {
         due(255, x.stale());
     }
 
-    private static void promise30() {
+    static void promise30() {
         ModuleLoft x = counter();
         x.signature();
         x.unit(0, 0, false);
@@ -1243,7 +1148,7 @@ public final class PromiseTests {
         due(3, x.change(0, 1));
     }
 
-    private static void promise31() {
+    static void promise31() {
         ModuleLoft x = counter();
         x.specType(0, A);
         x.specValue(0, -1, PLAIN);
@@ -1282,7 +1187,7 @@ public final class PromiseTests {
         due(48, x.stale());
     }
 
-    private static void promise32() {
+    static void promise32() {
         ModuleLoft x = counter();
         x.signature();
         due(0, x.build());
@@ -1305,80 +1210,7 @@ public final class PromiseTests {
         due(1, x.build());
     }
 
-    // ---- all of them
-
-    private static void tell(String name, Call call) {
-        promise = name;
-        try {
-            call.run();
-        } catch (RuntimeException e) {
-            wrong++;
-            System.out.println(name + ": broke off with " + e);
-            e.printStackTrace(System.out);
-        }
-    }
-
-    private static void firstHalf() {
-        tell("promise 1", PromiseTests::promise1);
-        tell("promise 2", PromiseTests::promise2);
-        tell("promise 3", PromiseTests::promise3);
-        tell("promise 4", PromiseTests::promise4);
-        tell("promise 5", PromiseTests::promise5);
-        tell("promise 6", PromiseTests::promise6);
-        tell("promise 7", PromiseTests::promise7);
-        tell("promise 8", PromiseTests::promise8);
-        tell("promise 8, wide", PromiseTests::promise8Wide);
-        tell("promise 9", PromiseTests::promise9);
-        tell("promise 10", PromiseTests::promise10);
-        tell("promise 11", PromiseTests::promise11);
-        tell("promise 11, limit", PromiseTests::promise11Limit);
-        tell("promise 12", PromiseTests::promise12);
-        tell("promise 13", PromiseTests::promise13);
-        tell("promise 14", PromiseTests::promise14);
-        tell("promise 14, limit", PromiseTests::promise14Limit);
-        tell("promise 15", PromiseTests::promise15);
-        tell("promise 16", PromiseTests::promise16);
-        tell("promise 16, room", PromiseTests::promise16Room);
-        tell("promise 17", PromiseTests::promise17);
-    }
-
-    private static void secondHalf() {
-        tell("promise 18", PromiseTests::promise18);
-        tell("promise 18, parts", PromiseTests::promise18Parts);
-        tell("promise 18, arrows", PromiseTests::promise18Arrows);
-        tell("promise 18, deep", PromiseTests::promise18Deep);
-        tell("promise 19", PromiseTests::promise19);
-        tell("promise 19, deep", PromiseTests::promise19Deep);
-        tell("promise 19, order", PromiseTests::promise19Order);
-        tell("promise 19, room", PromiseTests::promise19Room);
-        tell("promise 19, room for arrows", PromiseTests::promise19ArrowRoom);
-        tell("promise 20", PromiseTests::promise20);
-        tell("promise 21", PromiseTests::promise21);
-        tell("promise 21, arrows", PromiseTests::promise21Arrows);
-        tell("promise 21, room", PromiseTests::promise21Room);
-        tell("promise 22", PromiseTests::promise22);
-        tell("promise 22, written", PromiseTests::promise22Written);
-        tell("promise 23", PromiseTests::promise23);
-        tell("promise 24", PromiseTests::promise24);
-        tell("promise 25", PromiseTests::promise25);
-        tell("promise 26", PromiseTests::promise26);
-        tell("promise 26, pure", PromiseTests::promise26Pure);
-        tell("promise 26, result", PromiseTests::promise26Result);
-        tell("promise 26, room", PromiseTests::promise26Room);
-        tell("promise 27", PromiseTests::promise27);
-        tell("promise 28", PromiseTests::promise28);
-        tell("promise 29", PromiseTests::promise29);
-        tell("promise 30", PromiseTests::promise30);
-        tell("promise 31", PromiseTests::promise31);
-        tell("promise 32", PromiseTests::promise32);
-    }
-
     public static void main(String[] args) {
-        firstHalf();
-        secondHalf();
-        System.out.println(checks + " answers looked at, " + wrong + " are not as due");
-        if (wrong != 0) {
-            System.exit(1);
-        }
+        runAll(PromiseTests.class);
     }
 }
