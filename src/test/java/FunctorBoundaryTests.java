@@ -188,7 +188,8 @@ public final class FunctorBoundaryTests extends Checks {
         }
     }
 
-    // "by the body's own types": not by those of the argument, of the draft of a signature, or of a body that was made.
+    // "by the body's own types": not by those of the argument, of the draft of a signature, or of a body that was
+    // made.
     static void promise24OwnTypes() {
         ModuleLoft x = counter();
         x.specType(3, A);
@@ -575,6 +576,35 @@ public final class FunctorBoundaryTests extends Checks {
         due(2, x.item(1, TYPE, 9, 0));
         due(2, x.item(1, VALUE, 9, 0));
         due(5, x.item(1, VALUE, 9, 2));
+    }
+
+    // "from: the name of a type of the argument", "the name of a value of the argument": the first and the last.
+    static void promise26FirstAndLastName() {
+        ModuleLoft x = new ModuleLoft();
+        x.addType(0, 0);
+        x.addType(9, 1);
+        x.addValue(0, 0, 3);
+        x.addValue(9, 0, 4);
+        x.structure();
+        x.specValue(9, 0, PLAIN);
+        x.specValue(0, 0, PLAIN);
+        x.specType(9, A);
+        x.specType(0, A);
+        x.signature();
+        x.bodyType(0, 9);
+        x.bodyType(9, 0);
+        x.bodyValue(0, -10, PLAIN, 9, 0);
+        x.bodyValue(9, -1, PLAIN, 0, 0);
+        x.functor(0, -1, false);
+        due(1, x.apply(0, 0));
+        due(1, x.item(1, TYPE, 0, 0));
+        due(0, x.item(1, TYPE, 9, 0));
+        due(0, x.item(1, VALUE, 0, 0));
+        due(4, x.item(1, VALUE, 0, 2));
+        due(1, x.item(1, VALUE, 9, 0));
+        due(3, x.item(1, VALUE, 9, 2));
+        due(0, x.item(1, TYPE, 0, 2));
+        due(0, x.item(1, TYPE, 9, 2));
     }
 
     // "if the structure is not matched, or what comes of the body is not": nothing is made.

@@ -91,7 +91,8 @@ public final class MatchingBoundaryTests extends Checks {
         }
     }
 
-    // "its specs are gone through": an empty signature has none that does not fit, an empty structure nothing that does.
+    // "its specs are gone through": an empty signature has none that does not fit, an empty structure nothing that
+    // does.
     static void promise18Empty() {
         ModuleLoft x = unmatched();
         due(0, x.match(1, 1));
@@ -115,7 +116,8 @@ public final class MatchingBoundaryTests extends Checks {
         }
     }
 
-    // "2 a type is told and the structure has another one", "4 a value has another type", "6 a part is not matched by its signature"
+    // "2 a type is told and the structure has another one", "4 a value has another type", "6 a part is not matched
+    // by its signature"
     static void promise18Another() {
         for (int name = 0; name < 10; name += 9) {
             ModuleLoft x = allNames();
@@ -207,13 +209,14 @@ public final class MatchingBoundaryTests extends Checks {
         due(0, matchByDraft(x, 0));
         x.specValue(0, 4, PLAIN);
         due(0, matchByDraft(x, 0));
-        x.specValue(0, 3, 2);
-        due(40, matchByDraft(x, 0));
-        x.specValue(0, 2, PLAIN);
-        due(40, matchByDraft(x, 0));
+        for (int[] other : new int[][] {{3, 2}, {2, 2}, {3, 3}, {2, PLAIN}, {3, PLAIN}, {2, 4}, {4, 3}}) {
+            x.specValue(0, other[0], other[1]);
+            due(40, matchByDraft(x, 0));
+        }
     }
 
-    // "the value is an ARROW from the former to this": one that no one has made is none of the structure's, and is not made.
+    // "the value is an ARROW from the former to this": one that no one has made is none of the structure's, and is
+    // not made.
     static void promise18ArrowNotThere() {
         ModuleLoft x = counter();
         fillTypes(x, 199);
@@ -404,7 +407,31 @@ public final class MatchingBoundaryTests extends Checks {
         }
     }
 
-    // "an abstract type becomes a new type with a name of its own": each time, in each part, and what tells it is the same.
+    // "a value keeps its number": the smallest and the largest; what is no VALUE has none.
+    static void promise19Numbers() {
+        ModuleLoft x = counter();
+        x.addType(0, 0);
+        x.addValue(0, 0, -10000);
+        x.addValue(9, 0, 10000);
+        x.addPart(0, 0);
+        x.structure();
+        x.specValue(9, 0, PLAIN);
+        x.specPart(0, 0);
+        x.specType(0, A);
+        x.specValue(0, 0, PLAIN);
+        x.signature();
+        due(3, x.seal(1, 1));
+        due(5, x.view(1, 1));
+        for (int structure = 3; structure <= 5; structure += 2) {
+            due(-10000, x.item(structure, VALUE, 0, 2));
+            due(10000, x.item(structure, VALUE, 9, 2));
+            due(0, x.item(structure, TYPE, 0, 2));
+            due(0, x.item(structure, PART, 0, 2));
+        }
+    }
+
+    // "an abstract type becomes a new type with a name of its own": each time, in each part, and what tells it is
+    // the same.
     static void promise19Anew() {
         ModuleLoft x = counter();
         x.addPart(0, 0);
@@ -618,7 +645,8 @@ public final class MatchingBoundaryTests extends Checks {
         }
     }
 
-    // "if a structure, with a new type for each abstract one, is": the types of parts are apart from those of the whole.
+    // "if a structure, with a new type for each abstract one, is": the types of parts are apart from those of the
+    // whole.
     static void promise21Parts() {
         ModuleLoft x = counter();
         x.specType(0, 0);
@@ -784,7 +812,8 @@ public final class MatchingBoundaryTests extends Checks {
     static void promise22Written() {
         ModuleLoft x = new ModuleLoft();
         x.arrow(0, 0);
-        int[][] told = {{A, 0, PLAIN}, {0, 0, PLAIN}, {0, -1, PLAIN}, {0, 2, PLAIN}, {0, 0, 0}, {0, -1, 0}, {0, 0, -1}};
+        int[][] told = {
+            {A, 0, PLAIN}, {0, 0, PLAIN}, {0, -1, PLAIN}, {0, 2, PLAIN}, {0, 0, 0}, {0, -1, 0}, {0, 0, -1}};
         for (int[] one : told) {
             x.specType(0, one[0]);
             x.specValue(0, one[1], one[2]);
@@ -797,7 +826,16 @@ public final class MatchingBoundaryTests extends Checks {
         }
     }
 
-    // "(parts with signatures that are alike)": not the same number, but as deep as there are signatures.
+    // "(parts with signatures that are alike)": as deep as there are signatures.
+    static void promise22Deepest() {
+        ModuleLoft x = chain(20);
+        due(true, x.alike(19, 19));
+        due(false, x.alike(19, 18));
+        due(false, x.alike(19, 9));
+        due(true, x.alike(0, 0));
+    }
+
+    // The same: they need not have the same number.
     static void promise22Parts() {
         ModuleLoft x = new ModuleLoft();
         for (int row = 0; row < 2; row++) {

@@ -112,6 +112,34 @@ public final class SignatureBoundaryTests extends Checks {
         dueThrow(IOOBE, () -> x.specType(5, -4));
     }
 
+    // "or the type of this signature with the name n": the longest way from name to name, which ends with a type.
+    static void promise11LongestWay() {
+        ModuleLoft x = new ModuleLoft();
+        x.specType(0, 1);
+        for (int name = 1; name < 10; name++) {
+            due(name + 1, x.specType(name, -name));
+        }
+        due(11, x.specValue(0, -10, -10));
+        x.signature();
+        x.specType(9, 1);
+        x.specType(0, A);
+        x.specValue(0, 1, -10);
+        x.signature();
+        due(true, x.finer(0, 1));
+        for (int name = 0; name < 10; name++) {
+            x.addType(name, 1);
+        }
+        x.addValue(0, x.arrow(1, 1), 0);
+        x.structure();
+        due(0, x.match(0, 0));
+        due(1, x.seal(0, 0));
+        due(1, x.item(1, TYPE, 9, 0));
+        x.open(0);
+        x.addType(5, 0);
+        x.structure();
+        due(25, x.match(2, 0));
+    }
+
     // "the type of this signature with the name n": a VALUE or a PART with the name is none.
     static void promise11TypeNamesOnly() {
         ModuleLoft x = counter();
@@ -224,7 +252,8 @@ public final class SignatureBoundaryTests extends Checks {
         dueThrow(IOOBE, () -> x.specValue(4, 0, 200));
     }
 
-    // "or the type of this signature with the name n, told as -1 - n": on either side; -1 is the first name, -10 the last.
+    // "or the type of this signature with the name n, told as -1 - n": on either side; -1 is the first name, -10
+    // the last.
     static void promise12ToldNames() {
         ModuleLoft x = new ModuleLoft();
         x.specType(0, A);
@@ -240,7 +269,8 @@ public final class SignatureBoundaryTests extends Checks {
         }
     }
 
-    // "to: PLAIN, or what is told", but "told: what is told": -100 is PLAIN on one side, and no type name on the other.
+    // "to: PLAIN, or what is told", but "told: what is told": -100 is PLAIN on one side, and no type name on the
+    // other.
     static void promise12Plain() {
         ModuleLoft x = new ModuleLoft();
         x.specType(0, A);
@@ -687,6 +717,26 @@ public final class SignatureBoundaryTests extends Checks {
         x.specValue(2, 0, 1);
         x.specValue(3, 1, -2);
         x.specValue(4, -2, -3);
+        due(2, x.signature());
+        due(true, x.alike(1, 2));
+    }
+
+    // The same, for the last name, where others tell by other names.
+    static void promise16TakenLastName() {
+        ModuleLoft x = new ModuleLoft();
+        x.specType(8, A);
+        x.specType(9, A);
+        x.specType(0, -10);
+        x.specType(1, -9);
+        x.specValue(9, -10, PLAIN);
+        x.specValue(8, -9, -10);
+        x.signature();
+        due(1, x.with(0, 9, 0, true));
+        x.specType(8, A);
+        x.specType(0, 0);
+        x.specType(1, -9);
+        x.specValue(9, 0, PLAIN);
+        x.specValue(8, -9, 0);
         due(2, x.signature());
         due(true, x.alike(1, 2));
     }

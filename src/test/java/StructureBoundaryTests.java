@@ -92,7 +92,8 @@ public final class StructureBoundaryTests extends Checks {
         dueThrow(IOOBE, () -> x.arrow(0, 4));
     }
 
-    // "ARROWs from a type to a type, one for each two": which one it is from counts, and it may be from itself to itself.
+    // "ARROWs from a type to a type, one for each two": which one it is from counts, and it may be from itself to
+    // itself.
     static void promise2OneForEachTwo() {
         ModuleLoft x = new ModuleLoft();
         due(2, x.arrow(0, 0));
@@ -274,7 +275,8 @@ public final class StructureBoundaryTests extends Checks {
         dueThrow(IOOBE, () -> x.addType(0, 200));
     }
 
-    // "an item with a name that is there already for its kind hides that, which is taken out; the new one comes behind all."
+    // "an item with a name that is there already for its kind hides that, which is taken out; the new one comes
+    // behind all."
     static void promise4Hiding() {
         for (int hidden = 0; hidden < 4; hidden++) {
             ModuleLoft x = new ModuleLoft();
@@ -744,7 +746,8 @@ public final class StructureBoundaryTests extends Checks {
         dueThrow(IOOBE, () -> x.item(2, VALUE, 5, 1));
     }
 
-    // "what: 0 the type of a TYPE or VALUE, the structure of a PART; 1 the place of the item, from 0; 2 the number of a VALUE, otherwise 0"
+    // "what: 0 the type of a TYPE or VALUE, the structure of a PART; 1 the place of the item, from 0; 2 the number
+    // of a VALUE, otherwise 0"
     static void promise9What() {
         ModuleLoft x = counter();
         x.addPart(0, 0);

@@ -142,7 +142,8 @@ public final class UnitBoundaryTests extends Checks {
         dueThrow(IOOBE, () -> x.change(0, 20));
     }
 
-    // "Returns how often it was changed": from 1, each unit by itself, also where the face stays; building is no change.
+    // "Returns how often it was changed": from 1, each unit by itself, also where the face stays; building is no
+    // change.
     static void promise30HowOften() {
         ModuleLoft x = built();
         for (int often = 1; often <= 100; often++) {
@@ -192,7 +193,8 @@ public final class UnitBoundaryTests extends Checks {
         }
     }
 
-    // "or a face that it uses is not like the noted one": another number of what is alike is none, back again is none.
+    // "or a face that it uses is not like the noted one": another number of what is alike is none, back again is
+    // none.
     static void promise31Face() {
         ModuleLoft x = built();
         x.change(0, 1);
