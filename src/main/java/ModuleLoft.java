@@ -348,8 +348,8 @@ public final class ModuleLoft {
             return told == ABSTRACT || matched.typeOf(-1 - wanted.get(place, NAME)) == matched.typeOf(told);
         }
         return isSameType(
-                matched.typeOf(matched.get(there, TOLD)), matched.typeTo(matched.get(there, TO)),
-                matched.typeOf(told), matched.typeTo(wanted.get(place, TO)));
+                matched.typeOf(matched.get(there, TOLD)), matched.typeOf(matched.get(there, TO)),
+                matched.typeOf(told), matched.typeOf(wanted.get(place, TO)));
     }
 
     /** Each of the two is a plain type or an arrow of two; a plain one may be the number of an ARROW. */
@@ -757,7 +757,7 @@ public final class ModuleLoft {
         }
 
         private boolean isArrow(int type) {
-            return fromOf(type) != NONE;
+            return has(type) && read(froms, type) != NONE;
         }
 
         private int kindOf(int type) {
@@ -805,12 +805,14 @@ public final class ModuleLoft {
         private int allParts;
 
         private int get(int place, int column) {
-            return place >= 0 && place < count ? read(cells, place * COLUMNS + column) : NONE;
+            int cell = place * COLUMNS + column;
+            return place >= 0 && place < count && cell >= 0 && cell < cells.length ? cells[cell] : NONE;
         }
 
         private void set(int place, int column, int value) {
-            if (place >= 0 && place < count) {
-                write(cells, place * COLUMNS + column, value);
+            int cell = place * COLUMNS + column;
+            if (place >= 0 && place < count && cell >= 0 && cell < cells.length) {
+                cells[cell] = value;
             }
         }
 
@@ -875,9 +877,13 @@ public final class ModuleLoft {
 
         /**
          * Returns the type that is told, or the name of an abstract type as it is told: it is like none but
-         * itself. A name is told by one ahead of it, so there are no more steps than names.
+         * itself. PLAIN tells no type, and stays. A name is told by one ahead of it, so there are no more steps
+         * than names.
          */
         private int typeOf(int told) {
+            if (told == PLAIN) {
+                return PLAIN;
+            }
             int type = told;
             for (int step = 0; step <= NAMES && type < 0; step++) {
                 int place = placeOf(TYPE, -1 - type);
@@ -890,10 +896,6 @@ public final class ModuleLoft {
                 type = get(place, TOLD);
             }
             return type;
-        }
-
-        private int typeTo(int to) {
-            return to == PLAIN ? PLAIN : typeOf(to);
         }
     }
 
